@@ -1,12 +1,13 @@
 import java.util.ArrayList;
 import java.util.Arrays;
+import java.util.Collections;
 import java.util.List;
 import java.util.Random;
 import java.util.StringJoiner;
 
 /** Long runs of made-up calls, each answered by the class and by PlainProver alike. */
 public final class DifferenceTest {
-    private static final int RUNS = 1500;
+    private static final int RUNS = 1200;
     private static final int CALLS = 512;
     private static final int[] ODD = {-1, -2, -9, 5001, 1 << 20, Integer.MAX_VALUE, Integer.MIN_VALUE};
 
@@ -17,15 +18,20 @@ public final class DifferenceTest {
     private static final int[] refusedBy = new int[9];
     private static int lives = 0;
     private static int shrunk = 0;
+    private static int fullFrames = 0;
+    private static int wallsTooLong = 0;
 
     private final Random random;
     private final FrameProver real = new FrameProver();
     private final PlainProver plain = new PlainProver();
     private final List<String> told = new ArrayList<>();
+    private final int changes;
     private boolean failed = false;
 
     private DifferenceTest(long seed) {
-        random = new Random(seed);
+        // Small seeds alone would all begin with the same draw.
+        random = new Random(seed * 0x9E3779B97F4A7C15L);
+        changes = below(4);
     }
 
     public static void main(String[] args) {
@@ -44,12 +50,16 @@ public final class DifferenceTest {
             }
         }
         System.out.println("prove " + Arrays.toString(proved) + " judge " + Arrays.toString(judged) + " live " + lives
-            + " small " + shrunk + " refused " + Arrays.toString(refusedBy));
+            + " small " + shrunk + " full frames " + fullFrames + " walls too long " + wallsTooLong + " refused " + Arrays.toString(refusedBy));
         for (int i = 0; i < 4; i++) {
             if (proved[i] == 0 || judged[i] == 0) {
                 System.out.println("some answer of prove() or judge() never came");
                 wrong++;
             }
+        }
+        if (lives == 0 || shrunk == 0 || fullFrames == 0 || wallsTooLong == 0) {
+            System.out.println("some edge was never met");
+            wrong++;
         }
         System.out.println(wrong == 0 ? "all answers are alike" : wrong + " runs differ");
         if (wrong != 0) {
@@ -124,9 +134,15 @@ public final class DifferenceTest {
     }
 
     private void makeMachine() {
-        switch (below(6)) {
+        switch (below(8)) {
             case 0:
                 makeCounter();
+                break;
+            case 3:
+                makeEven();
+                break;
+            case 4:
+                makeRegister();
                 break;
             case 1:
                 makeRing();
@@ -220,6 +236,59 @@ public final class DifferenceTest {
         }
     }
 
+    /** Bits change places, inputs turn two at a time; an odd number of ones is bad: walls are long. */
+    private void makeEven() {
+        for (int i = 0; i < 8; i++) {
+            check("bit", real.bit(false, false), plain.bit(false, false), false, false);
+        }
+        int inputs = 2 + below(3);
+        for (int i = 0; i < inputs; i++) {
+            addInput();
+        }
+        int odd = 0;
+        for (int i = 1; i < 8; i++) {
+            odd = differ(odd, 2 * i);
+        }
+        List<Integer> nexts = new ArrayList<>();
+        for (int i = 0; i < 8; i++) {
+            nexts.add(2 * i);
+        }
+        Collections.shuffle(nexts, random);
+        for (int i = 0; i < inputs; i++) {
+            int one = below(8);
+            int other = (one + 1 + below(7)) % 8;
+            nexts.set(one, differ(nexts.get(one), 16 + 2 * i));
+            nexts.set(other, differ(nexts.get(other), 16 + 2 * i));
+        }
+        for (int i = below(4); i > 0; i--) {
+            odd = and(odd, and(below(16), below(16)) ^ 1);
+        }
+        for (int i = 0; i < 8; i++) {
+            setNext(i, nexts.get(i));
+        }
+        setBad(odd);
+    }
+
+    /** Bits move on by one place, the last one is made of some others: ways are long. */
+    private void makeRegister() {
+        int bits = 5 + below(4);
+        for (int i = 0; i < bits; i++) {
+            check("bit", real.bit(false, false), plain.bit(false, false), false, false);
+        }
+        int last = differ(2 * below(bits), 2 * below(bits)) ^ 1;
+        if (below(2) == 0) {
+            last = differ(last, and(2 * below(bits), 2 * below(bits) + 1));
+        }
+        for (int i = 0; i < bits; i++) {
+            setNext(i, i + 1 < bits ? 2 * (i + 1) : last);
+        }
+        int bad = 2 * below(bits) + below(2);
+        for (int i = below(bits); i > 0; i--) {
+            bad = and(bad, 2 * below(bits) + below(2));
+        }
+        setBad(bad);
+    }
+
     /** Eight bits and as many gates as there is room for. */
     private void makeCrowded() {
         for (int i = 0; i < 8; i++) {
@@ -241,7 +310,7 @@ public final class DifferenceTest {
 
     private void anyCall() {
         int pick = below(100);
-        if (pick < 3) {
+        if (pick < changes) {
             changeCall();
         } else if (pick < 20) {
             machineCall();
@@ -334,6 +403,7 @@ public final class DifferenceTest {
                 int answer = check("prove", real.prove(looks), plain.prove(looks), looks);
                 if (answer >= 0) {
                     proved[answer]++;
+                    fullFrames += answer == 3 && plain.frames() < 23 ? 1 : 0;
                 }
                 break;
             case 3:
@@ -363,7 +433,7 @@ public final class DifferenceTest {
                 check("wayChoice", real.wayChoice(i), plain.wayChoice(i), i);
                 break;
             default:
-                check("take", real.take(), plain.take());
+                wallsTooLong += check("take", real.take(), plain.take()) == -8 ? 1 : 0;
         }
     }
 
