@@ -684,11 +684,11 @@ public final class FrameProver {
 
         /** No lane of NONE is 1. */
         int signLanes(int sign) {
-            if (!hasSign(sign)) {
+            int part = sign >> 1;
+            if (part < 0 || part >= parts || part >= MOST_PARTS) {
                 return 0;
             }
-            int ofPart = partLanes(sign >> 1);
-            return (sign & 1) == 0 ? ofPart : ~ofPart & ALL_LANES;
+            return (sign & 1) == 0 ? lanes[part] : ~lanes[part] & ALL_LANES;
         }
 
         int rightLanes() {
@@ -826,17 +826,19 @@ public final class FrameProver {
 
         /** With numbers that are no STATES of a machine of fewer BITS, too. */
         void becomeCube(int cube) {
+            int mask = maskOf(cube);
+            int values = valuesOf(cube);
             for (int w = 0; w < WORDS; w++) {
-                words[w] = wordOfCube(cube, w);
+                words[w] = wordOfCube(mask, values, w);
             }
         }
 
-        private static long wordOfCube(int cube, int w) {
+        private static long wordOfCube(int mask, int values, int w) {
             long word = -1L;
             for (int bit = 0; bit < MOST_BITS; bit++) {
-                if ((maskOf(cube) >> bit & 1) == 1) {
+                if ((mask >> bit & 1) == 1) {
                     long ones = bit < ONES.length ? ONES[bit] : -(w >> (bit - ONES.length) & 1L);
-                    word &= (valuesOf(cube) >> bit & 1) == 1 ? ones : ~ones;
+                    word &= (values >> bit & 1) == 1 ? ones : ~ones;
                 }
             }
             return word;
@@ -861,8 +863,10 @@ public final class FrameProver {
         }
 
         void dropCube(int cube) {
+            int mask = maskOf(cube);
+            int values = valuesOf(cube);
             for (int w = 0; w < WORDS; w++) {
-                words[w] &= ~wordOfCube(cube, w);
+                words[w] &= ~wordOfCube(mask, values, w);
             }
         }
 
@@ -875,9 +879,11 @@ public final class FrameProver {
         }
 
         boolean meetsCube(int cube) {
+            int mask = maskOf(cube);
+            int values = valuesOf(cube);
             long common = 0L;
             for (int w = 0; w < WORDS; w++) {
-                common |= words[w] & wordOfCube(cube, w);
+                common |= words[w] & wordOfCube(mask, values, w);
             }
             return common != 0L;
         }
@@ -1243,7 +1249,7 @@ public final class FrameProver {
                 int bit = 1 << i;
                 if ((maskOf(widest) & bit) != 0) {
                     int wider = cubeOf(maskOf(widest) & ~bit, valuesOf(widest) & ~bit);
-                    if (canKeepOut(k, wider)) {
+                    if (!isInCube(machine.beginning, wider) && leastInto(k - 1, wider) == NONE) {
                         widest = wider;
                     }
                 }
@@ -1344,14 +1350,12 @@ public final class FrameProver {
             int k = troubleFrame(troubles - 1);
             if (state == machine.beginning) {
                 ended = WAY_FOUND;
-            } else if (!frames.frame(k).left.has(state)) {
-                troubles--;
-            } else {
-                leadBack(state, k);
+                return;
             }
-        }
-
-        private void leadBack(int state, int k) {
+            if (!frames.frame(k).left.has(state)) {
+                troubles--;
+                return;
+            }
             int cube = cubeOf(machine.states() - 1, state);
             int forerunner = frames.leastInto(k - 1, cube);
             if (forerunner != NONE) {

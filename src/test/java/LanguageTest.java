@@ -1,4 +1,6 @@
 import java.io.IOException;
+import java.io.PrintWriter;
+import java.io.StringWriter;
 import java.lang.reflect.Constructor;
 import java.lang.reflect.Field;
 import java.lang.reflect.Method;
@@ -8,10 +10,13 @@ import java.nio.file.Path;
 import java.util.ArrayList;
 import java.util.Arrays;
 import java.util.List;
+import java.util.Map;
 import java.util.Set;
+import java.util.TreeMap;
 import java.util.TreeSet;
 import java.util.regex.Matcher;
 import java.util.regex.Pattern;
+import java.util.spi.ToolProvider;
 
 /** The face of the document and those rules of LANGUAGE.md that a program can look at. */
 public final class LanguageTest {
@@ -31,6 +36,7 @@ public final class LanguageTest {
     private static final int MOST_FIELDS = 20;
     private static final int MOST_CLASSES = 12;
     private static final int MOST_PARAMETERS = 7;
+    private static final int MOST_DEEP = 8;
 
     private static int wrong = 0;
 
@@ -42,6 +48,7 @@ public final class LanguageTest {
         insideClasses();
         words(code);
         lengths(source);
+        depths();
         System.out.println(wrong == 0 ? "the rules hold" : wrong + " faults");
         if (wrong != 0) {
             System.exit(1);
@@ -154,6 +161,64 @@ public final class LanguageTest {
     private static void lengths(String source) {
         for (List<String> method : methods(source)) {
             must(method.size() <= MOST_LINES, "long: " + method.get(0));
+        }
+    }
+
+    /** How deep calls go, by the calls that javap tells of the compiled classes. */
+    private static void depths() {
+        List<String> arguments = new ArrayList<>(List.of("-p", "-c", "-cp", System.getProperty("java.class.path")));
+        arguments.add("FrameProver");
+        for (Class<?> one : FrameProver.class.getDeclaredClasses()) {
+            arguments.add(one.getName());
+        }
+        StringWriter told = new StringWriter();
+        int end = ToolProvider.findFirst("javap").orElseThrow()
+            .run(new PrintWriter(told), new PrintWriter(System.err), arguments.toArray(new String[0]));
+        must(end == 0, "javap ends with " + end);
+        Map<String, Set<String>> calls = callsOf(told.toString());
+        must(calls.size() > 100, "javap tells only " + calls.size() + " methods");
+        for (String method : calls.keySet()) {
+            depth(method, calls, new ArrayList<>());
+        }
+    }
+
+    private static Map<String, Set<String>> callsOf(String told) {
+        Pattern head = Pattern.compile("^(?:\\w+ )*class ([\\w$]+) .*");
+        Pattern method = Pattern.compile("^  [\\w$\\[\\]. ]*?([\\w$]+)\\(.*\\);$");
+        Pattern call = Pattern.compile("invoke\\w+ .*// Method (?:(FrameProver[\\w$]*)\\.)?\"?([\\w<>]+)\"?:\\(.*");
+        Map<String, Set<String>> calls = new TreeMap<>();
+        String type = "";
+        String open = "";
+        for (String line : told.split("\n")) {
+            Matcher matcher = head.matcher(line);
+            if (matcher.matches()) {
+                type = matcher.group(1);
+                continue;
+            }
+            matcher = method.matcher(line);
+            if (matcher.matches()) {
+                open = type + "." + (matcher.group(1).equals(type) ? "<init>" : matcher.group(1));
+                calls.putIfAbsent(open, new TreeSet<>());
+                continue;
+            }
+            matcher = call.matcher(line);
+            if (matcher.find() && !line.contains("java/lang")) {
+                calls.get(open).add((matcher.group(1) == null ? type : matcher.group(1)) + "." + matcher.group(2));
+            }
+        }
+        return calls;
+    }
+
+    private static void depth(String method, Map<String, Set<String>> calls, List<String> above) {
+        if (above.contains(method)) {
+            fault("it calls itself: " + above + " " + method);
+            return;
+        }
+        List<String> chain = new ArrayList<>(above);
+        chain.add(method);
+        must(chain.size() <= MOST_DEEP, "too deep: " + chain);
+        for (String called : calls.getOrDefault(method, Set.of())) {
+            depth(called, calls, chain);
         }
     }
 
