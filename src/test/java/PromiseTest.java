@@ -64,106 +64,6 @@ public final class PromiseTest {
         }
     }
 
-    /** The signs of a gate by their parts: and(x, y) is the sign of a new gate. */
-    private static int and(FrameProver x, int a, int b) {
-        return 2 * x.gate(a, b);
-    }
-
-    private static int differ(FrameProver x, int a, int b) {
-        return and(x, and(x, a, b) ^ 1, and(x, a ^ 1, b ^ 1) ^ 1);
-    }
-
-    /** Bits a, b from 0: a is next what b is not, b what a was; 0, 1, 3 (bad), 2, 0. */
-    private static FrameProver twoBits() {
-        FrameProver x = new FrameProver();
-        x.bit(false, false);
-        x.bit(false, false);
-        x.input();
-        x.gate(0, 2);
-        x.gate(1, 3);
-        x.next(0, 3);
-        x.next(1, 0);
-        x.bad(6);
-        return x;
-    }
-
-    /** Counts up from 0 over so many bits; the number told is bad. */
-    private static FrameProver counter(int bits, int bad) {
-        FrameProver x = new FrameProver();
-        for (int i = 0; i < bits; i++) {
-            x.bit(false, false);
-        }
-        int carry = and(x, 0, 1) ^ 1;
-        for (int i = 0; i < bits; i++) {
-            int sum = differ(x, 2 * i, carry);
-            carry = and(x, 2 * i, carry);
-            x.next(i, sum);
-        }
-        int sign = and(x, 0, 1) ^ 1;
-        for (int i = 0; i < bits; i++) {
-            sign = and(x, sign, 2 * i + (1 - (bad >> i & 1)));
-        }
-        x.bad(sign);
-        return x;
-    }
-
-    /**
-     * Eight bits from 0, each next another one; each input turns two of them. A state
-     * with an odd number of ones is bad, but for those where a spared pair of signs is 1.
-     */
-    private static FrameProver evenBits(int[] order, int[][] flips, int[][] spared) {
-        FrameProver x = new FrameProver();
-        for (int i = 0; i < 8; i++) {
-            x.bit(false, false);
-        }
-        for (int i = 0; i < flips.length; i++) {
-            x.input();
-        }
-        int odd = 0;
-        for (int i = 1; i < 8; i++) {
-            odd = differ(x, odd, 2 * i);
-        }
-        int[] nexts = new int[8];
-        for (int i = 0; i < 8; i++) {
-            nexts[i] = 2 * order[i];
-        }
-        for (int i = 0; i < flips.length; i++) {
-            for (int turned : flips[i]) {
-                nexts[turned] = differ(x, nexts[turned], 16 + 2 * i);
-            }
-        }
-        for (int[] pair : spared) {
-            odd = and(x, odd, and(x, pair[0], pair[1]) ^ 1);
-        }
-        for (int i = 0; i < 8; i++) {
-            x.next(i, nexts[i]);
-        }
-        x.bad(odd);
-        return x;
-    }
-
-    /** Seven bits from 0 that move on by one place; the state that comes by so many steps is bad. */
-    private static FrameProver register(int steps) {
-        FrameProver x = new FrameProver();
-        for (int i = 0; i < 7; i++) {
-            x.bit(false, false);
-        }
-        int last = differ(x, 0, 8) ^ 1;
-        for (int i = 0; i < 7; i++) {
-            x.next(i, i < 6 ? 2 * (i + 1) : last);
-        }
-        int state = x.start();
-        for (int i = 0; i < steps; i++) {
-            state = x.step(0);
-        }
-        int bad = 1 - (state & 1);
-        for (int i = 1; i < 7; i++) {
-            bad = and(x, bad, 2 * i + (1 - (state >> i & 1)));
-        }
-        x.bad(bad);
-        return x;
-    }
-
     private static void constants() {
         promise = "constants";
         due("NONE", FrameProver.NONE, -1);
@@ -416,7 +316,7 @@ public final class PromiseTest {
     }
 
     private static FrameProver ended() {
-        FrameProver x = twoBits();
+        FrameProver x = Machines.twoBits();
         x.prove(5000);
         x.list(0, 0);
         x.clear();
@@ -474,7 +374,7 @@ public final class PromiseTest {
         due("the same clause twice", x.count(7), 2);
         due("beyond", x.count(8), NO);
         due("below", x.count(-1), NO);
-        FrameProver y = twoBits();
+        FrameProver y = Machines.twoBits();
         y.prove(1);
         due("looks", y.count(6), 1);
         y.prove(2);
@@ -487,7 +387,7 @@ public final class PromiseTest {
 
     private static void starts() {
         promise = "11";
-        FrameProver x = twoBits();
+        FrameProver x = Machines.twoBits();
         x.step(0);
         x.step(1);
         due("value", x.value(2, 0), 1);
@@ -501,7 +401,7 @@ public final class PromiseTest {
 
     private static void stepsOfTheRun() {
         promise = "12";
-        FrameProver x = twoBits();
+        FrameProver x = Machines.twoBits();
         int[] due = {1, 3, 2, 0, 1};
         for (int i = 0; i < 5; i++) {
             due("step", x.step(i % 2), due[i]);
@@ -573,7 +473,7 @@ public final class PromiseTest {
 
     private static void proofStepByStep() {
         promise = "15";
-        FrameProver x = twoBits();
+        FrameProver x = Machines.twoBits();
         due("one look", x.prove(1), 0);
         due("N", x.frames(), 2);
         due("the first frame learned", x.clauses(1), 1);
@@ -599,7 +499,7 @@ public final class PromiseTest {
         due("above", x.prove(5001), NO);
         due("far above", x.prove(TOP), NO);
         due("it stays so", x.prove(5000), 2);
-        FrameProver y = twoBits();
+        FrameProver y = Machines.twoBits();
         due("refused", y.prove(0), NO);
         due("refused", y.prove(-1), BELOW);
         due("nothing began", y.frames(), 0);
@@ -642,11 +542,11 @@ public final class PromiseTest {
     }
 
     private static void proofFull() {
-        FrameProver near = register(23);
+        FrameProver near = Machines.register(23);
         due("in 23 steps", near.prove(5000), 2);
         due("N", near.frames(), 23);
         due("way", near.way(), 23);
-        FrameProver x = register(24);
+        FrameProver x = Machines.register(24);
         due("N would be 24", x.prove(5000), 3);
         due("N", x.frames(), 23);
         due("frames have room", x.clauses(1), 84);
@@ -655,9 +555,7 @@ public final class PromiseTest {
         due("no way", x.way(), MISSING);
         due("it stays so", x.prove(1), 3);
 
-        int[] order = {6, 4, 7, 0, 2, 5, 3, 1};
-        int[][] flips = {{5, 0}, {4, 5}, {7, 1}};
-        FrameProver y = evenBits(order, flips, new int[0][]);
+        FrameProver y = Machines.frameOf201();
         due("a frame would have 201 clauses", y.prove(5000), 3);
         due("N", y.frames(), 3);
         due("the first frame", y.clauses(1), 200);
@@ -681,7 +579,7 @@ public final class PromiseTest {
         x.input();
         x.next(0, 6);
         x.next(1, 8);
-        x.next(2, and(x, 0, 2));
+        x.next(2, Machines.and(x, 0, 2));
         x.bad(4);
         due("prove", x.prove(1), 0);
         due("clause 0 of frame 1", x.clause(1, 0, false), 4);
@@ -700,8 +598,8 @@ public final class PromiseTest {
         for (int i = 0; i < 3; i++) {
             y.bit(false, false);
         }
-        y.next(2, and(y, 0, 1));
-        y.bad(and(y, 4, 0));
+        y.next(2, Machines.and(y, 0, 1));
+        y.bad(Machines.and(y, 4, 0));
         due("prove", y.prove(5000), 1);
         due("only what the cube needs is left", y.clause(1, 0, false), 4);
         due("bit 0 was left out first", y.clause(1, 0, true), 4);
@@ -710,7 +608,7 @@ public final class PromiseTest {
 
     private static void framesAndClauses() {
         promise = "16 to 18";
-        FrameProver x = twoBits();
+        FrameProver x = Machines.twoBits();
         due("frames", x.frames(), 0);
         due("k 0", x.clauses(0), BEYOND);
         due("k 25", x.clauses(25), BEYOND);
@@ -730,7 +628,7 @@ public final class PromiseTest {
 
         // The same cube may come to a lower frame a second time.
         promise = "18, twice";
-        FrameProver y = counter(2, 3);
+        FrameProver y = Machines.counter(2, 3);
         y.prove(5000);
         due("frames", y.frames(), 3);
         for (int k = 1; k < 24; k++) {
@@ -740,7 +638,7 @@ public final class PromiseTest {
 
     private static void troubles() {
         promise = "19";
-        FrameProver x = twoBits();
+        FrameProver x = Machines.twoBits();
         due("none yet", x.trouble(0, 0), NONE);
         due("none yet", x.trouble(0, 1), NONE);
         x.prove(2);
@@ -761,7 +659,7 @@ public final class PromiseTest {
 
     private static void ways() {
         promise = "20 to 22";
-        FrameProver x = twoBits();
+        FrameProver x = Machines.twoBits();
         due("way", x.way(), MISSING);
         due("state", x.wayState(0), MISSING);
         due("choices", x.wayChoice(0), MISSING);
@@ -786,7 +684,7 @@ public final class PromiseTest {
         y.input();
         y.next(0, 2);
         y.assume(4);
-        y.bad(and(y, 0, 3));
+        y.bad(Machines.and(y, 0, 3));
         due("prove", y.prove(99), 2);
         due("way", y.way(), 1);
         due("the least right choices that lead there", y.wayChoice(0), 3);
@@ -795,7 +693,7 @@ public final class PromiseTest {
 
     private static void takes() {
         promise = "23";
-        FrameProver x = counter(2, 3);
+        FrameProver x = Machines.counter(2, 3);
         due("not proved", x.take(), MISSING);
         x.prove(5000);
         due("a way is no wall", x.take(), MISSING);
@@ -803,7 +701,7 @@ public final class PromiseTest {
         FrameProver y = new FrameProver();
         y.bit(false, false);
         y.bit(true, true);
-        y.bad(and(y, 0, 2));
+        y.bad(Machines.and(y, 0, 2));
         y.list(0, 0);
         y.list(3, 0);
         due("prove", y.prove(5000), 1);
@@ -815,15 +713,13 @@ public final class PromiseTest {
         due("again", y.take(), 1);
         due("the frames stay", y.clauses(1), 1);
 
-        int[] order = {1, 0, 2, 6, 3, 4, 7, 5};
-        FrameProver hundred = evenBits(order, new int[][] {{6, 0}, {7, 4}}, new int[][] {{1, 5}, {15, 8}, {10, 13}});
+        FrameProver hundred = Machines.wallOf100();
         due("prove", hundred.prove(5000), 1);
         due("a wall of 100", hundred.take(), 100);
         due("count", hundred.count(7), 100);
         due("judge", hundred.judge(), 0);
         due("list", hundred.list(0, 0), FULL);
-        int[] order2 = {6, 0, 7, 3, 1, 2, 5, 4};
-        FrameProver more = evenBits(order2, new int[][] {{5, 2}, {7, 6}}, new int[][] {{0, 14}, {15, 14}, {10, 4}});
+        FrameProver more = Machines.wallOf101();
         due("prove", more.prove(5000), 1);
         more.list(0, 0);
         due("a wall of 101", more.take(), FULL);
@@ -832,7 +728,7 @@ public final class PromiseTest {
 
     private static void asks() {
         promise = "24";
-        FrameProver x = twoBits();
+        FrameProver x = Machines.twoBits();
         due("from the beginning", x.ask(0, 3, 1), 0);
         due("from the beginning alone", x.ask(0, 3, 3), NONE);
         due("from any state", x.ask(1, 3, 3), 1);
@@ -859,7 +755,7 @@ public final class PromiseTest {
 
     private static void widens() {
         promise = "25";
-        FrameProver x = twoBits();
+        FrameProver x = Machines.twoBits();
         due("bit 0 goes", x.widen(1, 3, 3), 2);
         due("bit 0 goes", x.widen(1, 3, 2), 2);
         due("1 comes from the beginning", x.widen(1, 3, 1), NO);
@@ -893,11 +789,11 @@ public final class PromiseTest {
 
     private static void shortestWays() {
         promise = "26";
-        due("two steps", twoBits().shortest(), 2);
-        due("far", counter(8, 255).shortest(), 255);
-        due("at once", counter(3, 0).shortest(), 0);
-        due("one step", counter(3, 1).shortest(), 1);
-        FrameProver x = twoBits();
+        due("two steps", Machines.twoBits().shortest(), 2);
+        due("far", Machines.counter(8, 255).shortest(), 255);
+        due("at once", Machines.counter(3, 0).shortest(), 0);
+        due("one step", Machines.counter(3, 1).shortest(), 1);
+        FrameProver x = Machines.twoBits();
         x.bad(NONE);
         due("none is bad", x.shortest(), NONE);
         x.bad(6);
@@ -907,7 +803,7 @@ public final class PromiseTest {
 
     private static void withins() {
         promise = "27";
-        FrameProver x = twoBits();
+        FrameProver x = Machines.twoBits();
         int[] due = {1, 2, 3, 4, 4, 4};
         for (int n = 0; n < due.length; n++) {
             due("within(" + n + ")", x.within(n), due[n]);
@@ -915,7 +811,7 @@ public final class PromiseTest {
         due("far", x.within(TOP), 4);
         due("below", x.within(-1), BELOW);
         due("below", x.within(LOW), BELOW);
-        FrameProver y = counter(8, 7);
+        FrameProver y = Machines.counter(8, 7);
         due("of 256", y.within(254), 255);
         due("of 256", y.within(255), 256);
         due("of 256", y.within(256), 256);
@@ -929,7 +825,7 @@ public final class PromiseTest {
 
     private static void keeps() {
         promise = "28";
-        FrameProver x = twoBits();
+        FrameProver x = Machines.twoBits();
         due("no clause", x.keeps(24), 1);
         due("beyond", x.keeps(0), BEYOND);
         due("beyond", x.keeps(25), BEYOND);
@@ -938,7 +834,7 @@ public final class PromiseTest {
         due("frame 1", x.keeps(1), 1);
         due("frame 2", x.keeps(2), 1);
         // What a frame keeps out never comes within its steps: so it is 1 wherever one asks.
-        FrameProver y = counter(4, 12);
+        FrameProver y = Machines.counter(4, 12);
         y.prove(20);
         for (int k = 1; k <= 24; k++) {
             due("keeps(" + k + ")", y.keeps(k), 1);
@@ -954,12 +850,12 @@ public final class PromiseTest {
         }
         x.input();
         due("nothing is bad", x.cone(), MISSING);
-        int gate = and(x, 2, 10);
+        int gate = Machines.and(x, 2, 10);
         x.bad(gate ^ 1);
         due("bit 1", x.cone(), 2);
         x.next(1, 8);
         due("next of bit 1 is bit 4", x.cone(), 18);
-        x.next(4, and(x, 7, 8));
+        x.next(4, Machines.and(x, 7, 8));
         due("next of bit 4 hangs on bit 3", x.cone(), 26);
         x.next(0, 4);
         due("bit 0 hangs on bit 2, none on bit 0", x.cone(), 26);
@@ -987,18 +883,18 @@ public final class PromiseTest {
 
     private static void lives() {
         promise = "30";
-        due("a circle of all", twoBits().live(), 0);
+        due("a circle of all", Machines.twoBits().live(), 0);
         // 0 leads to 1 and stays there.
         FrameProver x = new FrameProver();
         x.bit(false, false);
-        x.next(0, and(x, 0, 1) ^ 1);
+        x.next(0, Machines.and(x, 0, 1) ^ 1);
         due("0 does not come again", x.live(), 1);
         x.fair(1);
         due("0 is not again and again", x.live(), NONE);
         // 1 leads nowhere.
         FrameProver y = new FrameProver();
         y.bit(false, false);
-        y.next(0, and(y, 0, 1) ^ 1);
+        y.next(0, Machines.and(y, 0, 1) ^ 1);
         y.assume(1);
         due("a run that ends", y.live(), NONE);
         // 3 turns round by itself, but never comes.
@@ -1024,9 +920,9 @@ public final class PromiseTest {
         g.bit(false, false);
         g.bit(false, false);
         g.input();
-        int first = and(g, 1, 4);
-        g.next(0, and(g, 0, 1) ^ 1);
-        g.next(1, and(g, first ^ 1, and(g, 0, 2) ^ 1) ^ 1);
+        int first = Machines.and(g, 1, 4);
+        g.next(0, Machines.and(g, 0, 1) ^ 1);
+        g.next(1, Machines.and(g, first ^ 1, Machines.and(g, 0, 2) ^ 1) ^ 1);
         due("1 and 3 stay", g.live(), 1);
         g.fair(2);
         due("3 has bit 1", g.live(), 3);
@@ -1037,7 +933,7 @@ public final class PromiseTest {
 
     private static void lists() {
         promise = "31";
-        FrameProver x = twoBits();
+        FrameProver x = Machines.twoBits();
         due("first", x.list(3, 2), 1);
         due("the same again", x.list(3, 2), 2);
         due("all", x.list(0, 0), 3);
@@ -1059,7 +955,7 @@ public final class PromiseTest {
 
     private static void forges() {
         promise = "32";
-        FrameProver x = twoBits();
+        FrameProver x = Machines.twoBits();
         due("no clause", x.forge(0, 0, true), BEYOND);
         x.list(3, 2);
         x.list(1, 1);
@@ -1089,7 +985,7 @@ public final class PromiseTest {
         x.forge(0, 0, false);
         x.forge(0, 1, false);
         due("judged as forged", x.judge(), 1);
-        FrameProver y = counter(8, 255);
+        FrameProver y = Machines.counter(8, 255);
         y.list(255, 255);
         due("bit 7", y.forge(0, 7, true), 1);
         due("mask", y.listed(0, false), 127);
@@ -1099,7 +995,7 @@ public final class PromiseTest {
 
     private static void clears() {
         promise = "33";
-        FrameProver x = twoBits();
+        FrameProver x = Machines.twoBits();
         due("empty", x.clear(), 0);
         x.list(3, 0);
         x.list(3, 1);
@@ -1111,7 +1007,7 @@ public final class PromiseTest {
 
     private static void judges() {
         promise = "34, 35";
-        FrameProver x = twoBits();
+        FrameProver x = Machines.twoBits();
         due("3 is left in", x.judge(), 3);
         due("state", x.fails(0), 3);
         due("to", x.fails(1), NONE);
@@ -1222,7 +1118,7 @@ public final class PromiseTest {
 
     private static void listeds() {
         promise = "37";
-        FrameProver x = twoBits();
+        FrameProver x = Machines.twoBits();
         due("nothing", x.listed(0, false), BEYOND);
         x.list(3, 1);
         x.list(2, 0);
@@ -1237,7 +1133,7 @@ public final class PromiseTest {
 
     private static void lays() {
         promise = "38";
-        FrameProver x = twoBits();
+        FrameProver x = Machines.twoBits();
         due("lay", x.lay(3, 1), 5);
         int[] due = {1, 1, 1, 1, 0};
         for (int i = 0; i < 5; i++) {
@@ -1263,7 +1159,7 @@ public final class PromiseTest {
 
     private static void rows() {
         promise = "39, 40";
-        FrameProver x = twoBits();
+        FrameProver x = Machines.twoBits();
         due("missing", x.row(0), MISSING);
         due("MISSING comes first", x.row(-1), MISSING);
         due("tear", x.tear(), 0);
@@ -1280,7 +1176,7 @@ public final class PromiseTest {
 
     private static void copies() {
         promise = "41";
-        FrameProver x = twoBits();
+        FrameProver x = Machines.twoBits();
         due("missing", x.copy(0, 0, 1), MISSING);
         due("MISSING comes first", x.copy(-1, 0, -1), MISSING);
         x.lay(1, 0);
